@@ -1,28 +1,13 @@
-/** Promise 13: the list of the best tree. */
+/** Promise 13: the list of the best tree (TreeEdgesTest has the boundary cases). */
 public final class BestTest {
     public static void main(String[] args) {
-        noTree();
         oneWord();
         leastCostGoesBeforeLeastList();
         leastRuleThenLeastPlace();
         dearFirstPlace();
         placesCountFromTheRow();
         fiveWords();
-        wrongSymbolsAndPlaces();
         Check.end();
-    }
-
-    private static void noTree() {
-        ParseRanker x = new ParseRanker();
-        Check.best(x, 0);
-        x.pair(0, 0);
-        x.word(0, 0, 0);
-        Check.best(x, 0);
-        Check.say(x, 1);
-        Check.best(x, 0);
-        Check.say(x, 0);
-        Check.best(x, 0);
-        Check.best(x, 1);
     }
 
     private static void oneWord() {
@@ -106,24 +91,5 @@ public final class BestTest {
         Check.best(x, 1);
         x.unsay();
         Check.best(x, 2, 3, 3, 1, 2, 1, 1, 0, 2, 2, 0);
-    }
-
-    private static void wrongSymbolsAndPlaces() {
-        ParseRanker x = new ParseRanker();
-        x.pair(0, 0);
-        x.word(0, 0, 0);
-        Check.say(x, 0, 0, 0, 0, 0);
-        for (int a : new int[] {-1, 3, Integer.MIN_VALUE, Integer.MAX_VALUE}) {
-            Check.due("bestAt(" + a + ", 0)", x.bestAt(a, 0), ParseRanker.NONE);
-        }
-        for (int k : new int[] {-1, 13, 14, Integer.MIN_VALUE, Integer.MAX_VALUE}) {
-            Check.due("bestAt(0, " + k + ")", x.bestAt(0, k), ParseRanker.NONE);
-        }
-        // The list of the longer row must not shine through behind the list of the shorter one.
-        Check.best(x, 0, 0, 1, 1, 0, 2, 1, 0, 3, 1, 0, 4, 1, 1);
-        x.unsay();
-        x.unsay();
-        x.unsay();
-        Check.best(x, 0, 0, 1, 1, 1);
     }
 }

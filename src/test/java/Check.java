@@ -1,14 +1,20 @@
 /** Counts the answers that are not the ones that are due, and ends a test by them. */
 final class Check {
     private static int wrong = 0;
+    private static String heading = "";
 
     private Check() {
+    }
+
+    /** Names what the next calls test. */
+    static void about(String what) {
+        heading = what + ": ";
     }
 
     static void due(String call, long got, long want) {
         if (got != want) {
             wrong++;
-            System.out.println(call + " answered " + got + ", due is " + want);
+            System.out.println(heading + call + " answered " + got + ", due is " + want);
         }
     }
 

@@ -1,4 +1,4 @@
-/** Promise 15: the least cost of a tree that uses a rule. */
+/** Promise 15: the least cost of a tree that uses a rule (TreeEdgesTest has the boundary cases). */
 public final class CostWithTest {
     public static void main(String[] args) {
         oneWord();
@@ -6,7 +6,6 @@ public final class CostWithTest {
         leftAndRight();
         farBelowTheEight();
         ruleThatNoTreeUses();
-        wrongArguments();
         Check.end();
     }
 
@@ -96,21 +95,5 @@ public final class CostWithTest {
         with(x, 2, 4, 0);
         with(x, 2, 0, ParseRanker.NONE);
         with(x, 1, 2, ParseRanker.NONE);
-    }
-
-    private static void wrongArguments() {
-        ParseRanker x = new ParseRanker();
-        for (int k = 0; k < 8; k++) {
-            x.word(k % 3, 0, k);
-        }
-        x.drop(5);
-        Check.say(x, 0);
-        for (int a : new int[] {-1, 3, Integer.MIN_VALUE, Integer.MAX_VALUE}) {
-            with(x, a, 0, ParseRanker.NONE);
-        }
-        for (int k : new int[] {-1, 5, 8, 32, Integer.MIN_VALUE, Integer.MAX_VALUE}) {
-            with(x, 2, k, ParseRanker.NONE);
-        }
-        with(x, 2, 2, 2);
     }
 }

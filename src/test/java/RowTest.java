@@ -1,9 +1,7 @@
-/** Promises 1 and 7 to 9: the row of words. */
+/** Promises 7 to 9: the row of words (RowEdgesTest has the boundary cases). */
 public final class RowTest {
     public static void main(String[] args) {
         sayAndUnsay();
-        sayWrong();
-        rowIsFull();
         unsaidWordsDoNotCount();
         Check.end();
     }
@@ -25,30 +23,6 @@ public final class RowTest {
         Check.due("length()", x.length(), 0);
         Check.say(x, 1);
         Check.due("unsay()", x.unsay(), 1);
-    }
-
-    private static void sayWrong() {
-        ParseRanker x = new ParseRanker();
-        Check.say(x, 2);
-        for (int w : new int[] {-1, 3, 4, Integer.MIN_VALUE, Integer.MAX_VALUE}) {
-            Check.due("say(" + w + ")", x.say(w), false);
-            Check.due("length()", x.length(), 1);
-        }
-        Check.due("unsay()", x.unsay(), 2);
-    }
-
-    private static void rowIsFull() {
-        ParseRanker x = new ParseRanker();
-        Check.say(x, 0, 0, 0, 0, 1);
-        for (int w = -1; w <= 3; w++) {
-            Check.due("say(" + w + ")", x.say(w), false);
-            Check.due("length()", x.length(), 5);
-        }
-        Check.due("unsay()", x.unsay(), 1);
-        Check.due("length()", x.length(), 4);
-        Check.say(x, 2);
-        Check.due("unsay()", x.unsay(), 2);
-        Check.due("unsay()", x.unsay(), 0);
     }
 
     private static void unsaidWordsDoNotCount() {

@@ -1,46 +1,16 @@
-/** Promises 1 to 6 and 16: a new object, and the rules that come, change and go. */
+/** Promises 2 to 6: the rules that come, change and go (RuleEdgesTest has the boundary cases). */
 public final class RulesTest {
-    private static final int[] FAR = {Integer.MIN_VALUE, Integer.MIN_VALUE + 1, -65, -64, -16, -4, -1, 64, 65, 256,
-        1 << 30, Integer.MAX_VALUE - 1, Integer.MAX_VALUE};
-
     public static void main(String[] args) {
-        newObject();
         pairForms();
-        pairWrong();
         wordForms();
-        wordWrong();
-        costEdges();
         leastFreeNumber();
-        noneBeforeFull();
         dropTakesAway();
-        dropWrong();
         priceChanges();
-        priceWrong();
         objectsStandAlone();
         Check.end();
     }
 
-    private static void newObject() {
-        ParseRanker x = new ParseRanker();
-        Check.due("rules()", x.rules(), 0);
-        Check.due("length()", x.length(), 0);
-        Check.due("unsay()", x.unsay(), ParseRanker.NONE);
-        for (int k = -1; k <= 8; k++) {
-            Check.due("drop(" + k + ")", x.drop(k), false);
-            Check.due("price(" + k + ", 1)", x.price(k, 1), false);
-        }
-    }
-
     private static void pairForms() {
-        for (int abc = -70; abc <= 200; abc++) {
-            boolean fits = false;
-            for (int n = 0; n < 27; n++) {
-                fits |= abc == Check.abc(n % 3, n / 3 % 3, n / 9);
-            }
-            ParseRanker x = new ParseRanker();
-            Check.due("pair(" + abc + ", 7)", x.pair(abc, 7), fits ? 0 : ParseRanker.NONE);
-            Check.due("rules() after pair(" + abc + ", 7)", x.rules(), fits ? 1 : 0);
-        }
         for (int n = 0; n < 27; n++) {
             pairMeans(n % 3, n / 3 % 3, n / 9);
         }
@@ -63,14 +33,6 @@ public final class RulesTest {
         }
     }
 
-    private static void pairWrong() {
-        ParseRanker x = new ParseRanker();
-        for (int far : FAR) {
-            Check.due("pair(" + far + ", 0)", x.pair(far, 0), ParseRanker.NONE);
-        }
-        Check.due("rules()", x.rules(), 0);
-    }
-
     private static void wordForms() {
         for (int n = 0; n < 9; n++) {
             ParseRanker x = new ParseRanker();
@@ -81,31 +43,6 @@ public final class RulesTest {
                 Check.due("symbols(0, 1)", x.symbols(0, 1), w == n % 3 ? 1 << n / 3 : 0);
                 x.unsay();
             }
-        }
-    }
-
-    private static void wordWrong() {
-        ParseRanker x = new ParseRanker();
-        for (int bad : new int[] {-1, 3, 4, Integer.MIN_VALUE, Integer.MAX_VALUE}) {
-            Check.due("word(" + bad + ", 0, 0)", x.word(bad, 0, 0), ParseRanker.NONE);
-            Check.due("word(0, " + bad + ", 0)", x.word(0, bad, 0), ParseRanker.NONE);
-        }
-        Check.due("rules()", x.rules(), 0);
-    }
-
-    private static void costEdges() {
-        for (int cost : new int[] {Integer.MIN_VALUE, -1, 51, 52, Integer.MAX_VALUE}) {
-            ParseRanker x = new ParseRanker();
-            Check.due("pair(0, " + cost + ")", x.pair(0, cost), ParseRanker.NONE);
-            Check.due("word(0, 0, " + cost + ")", x.word(0, 0, cost), ParseRanker.NONE);
-            Check.due("rules()", x.rules(), 0);
-        }
-        for (int cost : new int[] {0, 1, 49, 50}) {
-            ParseRanker x = new ParseRanker();
-            Check.due("pair(0, " + cost + ")", x.pair(0, cost), 0);
-            Check.due("word(0, 0, " + cost + ")", x.word(0, 0, cost), 1);
-            Check.say(x, 0, 0);
-            Check.costs(x, 0, 3 * cost);
         }
     }
 
@@ -125,26 +62,6 @@ public final class RulesTest {
         Check.due("rules()", x.rules(), 0b10111111);
         Check.due("pair(21, 1)", x.pair(21, 1), 6);
         Check.due("rules()", x.rules(), 255);
-    }
-
-    private static void noneBeforeFull() {
-        ParseRanker x = new ParseRanker();
-        for (int k = 0; k < 8; k++) {
-            x.word(0, 0, 10 + k);
-        }
-        Check.due("pair(0, 0)", x.pair(0, 0), ParseRanker.FULL);
-        Check.due("word(0, 0, 0)", x.word(0, 0, 0), ParseRanker.FULL);
-        Check.due("pair(3, 0)", x.pair(3, 0), ParseRanker.NONE);
-        Check.due("pair(64, 0)", x.pair(64, 0), ParseRanker.NONE);
-        Check.due("pair(0, 51)", x.pair(0, 51), ParseRanker.NONE);
-        Check.due("word(3, 0, 0)", x.word(3, 0, 0), ParseRanker.NONE);
-        Check.due("word(0, -1, 0)", x.word(0, -1, 0), ParseRanker.NONE);
-        Check.due("word(0, 0, -1)", x.word(0, 0, -1), ParseRanker.NONE);
-        Check.due("rules()", x.rules(), 255);
-        Check.say(x, 0);
-        Check.costs(x, 0, 10, 11, 12, 13, 14, 15, 16, 17);
-        Check.say(x, 0);
-        Check.costs(x, 0);
     }
 
     private static void dropTakesAway() {
@@ -170,21 +87,6 @@ public final class RulesTest {
         Check.costs(x, 0, 3, 9);
     }
 
-    private static void dropWrong() {
-        ParseRanker x = new ParseRanker();
-        for (int k = 0; k < 8; k++) {
-            x.word(0, 0, k);
-        }
-        for (int k : new int[] {-1, 8, 9, 32, -32, Integer.MIN_VALUE, Integer.MAX_VALUE}) {
-            Check.due("drop(" + k + ")", x.drop(k), false);
-            Check.due("rules()", x.rules(), 255);
-        }
-        for (int k = 0; k < 8; k++) {
-            Check.due("drop(" + k + ")", x.drop(k), true);
-            Check.due("rules()", x.rules(), 255 << k + 1 & 255);
-        }
-    }
-
     private static void priceChanges() {
         ParseRanker x = new ParseRanker();
         x.pair(0, 1);
@@ -197,20 +99,6 @@ public final class RulesTest {
         Check.costs(x, 0, 50);
         Check.due("price(1, 0)", x.price(1, 0), true);
         Check.due("rules()", x.rules(), 3);
-    }
-
-    private static void priceWrong() {
-        ParseRanker x = new ParseRanker();
-        x.word(0, 0, 2);
-        Check.say(x, 0);
-        for (int cost : new int[] {-1, 51, Integer.MIN_VALUE, Integer.MAX_VALUE}) {
-            Check.due("price(0, " + cost + ")", x.price(0, cost), false);
-        }
-        for (int k : new int[] {-1, 1, 7, 8, 32, Integer.MIN_VALUE, Integer.MAX_VALUE}) {
-            Check.due("price(" + k + ", 5)", x.price(k, 5), false);
-        }
-        Check.costs(x, 0, 2);
-        Check.due("rules()", x.rules(), 1);
     }
 
     private static void objectsStandAlone() {
