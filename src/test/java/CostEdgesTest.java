@@ -168,8 +168,8 @@ public final class CostEdgesTest {
         }
         Check.say(x, 0, 0);
         for (int n = 0; n < 3; n++) {
-            int least = 30 - 10 * n;
-            Check.costs(x, order[n], least, least + 1, least + 1, least + 2, least + 2, least + 2, least + 3, least + 3);
+            int c = 30 - 10 * n;
+            Check.costs(x, order[n], c, c + 1, c + 1, c + 2, c + 2, c + 2, c + 3, c + 3);
         }
     }
 
@@ -192,6 +192,34 @@ public final class CostEdgesTest {
         x.price(0, 50);
         x.price(1, 50);
         Check.costs(x, 0, 450, 450, 450, 450, 450, 450, 450, 450);
+    }
+
+    private static void promise10WrongQuestionsChangeNothing() {
+        Edges.refused(Edges::full, "cost(3, 0)", x -> x.cost(3, 0), NONE);
+        Edges.refused(Edges::full, "cost(0, 8)", x -> x.cost(0, 8), NONE);
+        Edges.refused(Edges::full, "cost(-1, -1)", x -> x.cost(-1, -1), NONE);
+        Edges.refused(Edges::silent, "cost(0, 0)", x -> x.cost(0, 0), NONE);
+        Edges.refused(Edges::silent, "cost(3, 8)", x -> x.cost(3, 8), NONE);
+    }
+
+    private static void promise11WrongQuestionsChangeNothing() {
+        Edges.refused(Edges::full, "spanCost(-1, 6, 3, 8)", x -> x.spanCost(-1, 6, 3, 8), NONE);
+        Edges.refused(Edges::full, "spanCost(5, 0, 0, 0)", x -> x.spanCost(5, 0, 0, 0), NONE);
+        Edges.refused(Edges::roomy, "spanCost(0, 5, 0, 0)", x -> x.spanCost(0, 5, 0, 0), NONE);
+        Edges.refused(Edges::silent, "spanCost(0, 1, 0, 0)", x -> x.spanCost(0, 1, 0, 0), NONE);
+    }
+
+    private static void promise12WrongQuestionsChangeNothing() {
+        Edges.refused(Edges::full, "trees(3)", x -> x.trees(3), 0);
+        Edges.refused(Edges::full, "trees(-1)", x -> x.trees(-1), 0);
+        Edges.refused(Edges::silent, "trees(0)", x -> x.trees(0), 0);
+    }
+
+    private static void promise14WrongQuestionsChangeNothing() {
+        Edges.refused(Edges::full, "symbols(-1, 6)", x -> x.symbols(-1, 6), 0);
+        Edges.refused(Edges::full, "symbols(5, 0)", x -> x.symbols(5, 0), 0);
+        Edges.refused(Edges::roomy, "symbols(0, 5)", x -> x.symbols(0, 5), 0);
+        Edges.refused(Edges::silent, "symbols(0, 1)", x -> x.symbols(0, 1), 0);
     }
 
     private static void promise11TheWholeRowIsTheSameAsCost() {

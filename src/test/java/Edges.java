@@ -50,8 +50,8 @@ final class Edges {
     }
 
     static int[] tooLarge(int greatest) {
-        int[] numbers = {greatest + 1, greatest + 2, greatest + 3, 8, 16, 32, 33, 64, 255, 256, 257, 65536, 65537, 1 << 24,
-            1 << 30, Integer.MAX_VALUE - 1, Integer.MAX_VALUE};
+        int[] numbers = {greatest + 1, greatest + 2, greatest + 3, 8, 16, 32, 33, 64, 255, 256, 257, 65536, 65537,
+            1 << 24, 1 << 30, Integer.MAX_VALUE - 1, Integer.MAX_VALUE};
         return IntStream.of(numbers).filter(n -> n > greatest).toArray();
     }
 

@@ -1,4 +1,4 @@
-/** The boundary cases of promises 1 to 6 and 16, one test for each: no rules, eight rules, and the calls about rules. */
+/** The boundary cases of promises 1 to 6 and 16, one test for each: no rules, eight rules, calls about rules. */
 public final class RuleEdgesTest {
     private static final int NONE = Edges.NONE;
     private static final int FULL = Edges.FULL;
@@ -29,7 +29,7 @@ public final class RuleEdgesTest {
     }
 
     // The tests of refused calls are worth no more than what Edges.state can tell apart.
-    private static void promise00StateShowsEveryRuleAndWord() {
+    private static void edgesStateShowsEveryRuleAndWord() {
         String full = Edges.state(Edges.full());
         for (int k = 0; k < 8; k++) {
             ParseRanker x = Edges.full();
@@ -40,7 +40,7 @@ public final class RuleEdgesTest {
         Check.due("the row ends as it was said", full.endsWith("row 0 0 2 0 1 -1"), true);
     }
 
-    private static void promise00The512thCallIsAnswered() {
+    private static void documentThe512thCallIsAnswered() {
         ParseRanker x = Edges.chain(5);
         for (int call = 8; call < 512; call++) {
             Check.due("call " + call + ": cost(0, 7)", x.cost(0, 7), 23);
