@@ -195,31 +195,31 @@ public final class CostEdgesTest {
     }
 
     private static void promise10WrongQuestionsChangeNothing() {
-        Edges.refused(Edges::full, "cost(3, 0)", x -> x.cost(3, 0), NONE);
-        Edges.refused(Edges::full, "cost(0, 8)", x -> x.cost(0, 8), NONE);
-        Edges.refused(Edges::full, "cost(-1, -1)", x -> x.cost(-1, -1), NONE);
-        Edges.refused(Edges::silent, "cost(0, 0)", x -> x.cost(0, 0), NONE);
-        Edges.refused(Edges::silent, "cost(3, 8)", x -> x.cost(3, 8), NONE);
+        Edges.changesNothing(Edges::full, "cost(3, 0)", x -> x.cost(3, 0), NONE);
+        Edges.changesNothing(Edges::full, "cost(0, 8)", x -> x.cost(0, 8), NONE);
+        Edges.changesNothing(Edges::full, "cost(-1, -1)", x -> x.cost(-1, -1), NONE);
+        Edges.changesNothing(Edges::silent, "cost(0, 0)", x -> x.cost(0, 0), NONE);
+        Edges.changesNothing(Edges::silent, "cost(3, 8)", x -> x.cost(3, 8), NONE);
     }
 
     private static void promise11WrongQuestionsChangeNothing() {
-        Edges.refused(Edges::full, "spanCost(-1, 6, 3, 8)", x -> x.spanCost(-1, 6, 3, 8), NONE);
-        Edges.refused(Edges::full, "spanCost(5, 0, 0, 0)", x -> x.spanCost(5, 0, 0, 0), NONE);
-        Edges.refused(Edges::roomy, "spanCost(0, 5, 0, 0)", x -> x.spanCost(0, 5, 0, 0), NONE);
-        Edges.refused(Edges::silent, "spanCost(0, 1, 0, 0)", x -> x.spanCost(0, 1, 0, 0), NONE);
+        Edges.changesNothing(Edges::full, "spanCost(-1, 6, 3, 8)", x -> x.spanCost(-1, 6, 3, 8), NONE);
+        Edges.changesNothing(Edges::full, "spanCost(5, 0, 0, 0)", x -> x.spanCost(5, 0, 0, 0), NONE);
+        Edges.changesNothing(Edges::roomy, "spanCost(0, 5, 0, 0)", x -> x.spanCost(0, 5, 0, 0), NONE);
+        Edges.changesNothing(Edges::silent, "spanCost(0, 1, 0, 0)", x -> x.spanCost(0, 1, 0, 0), NONE);
     }
 
     private static void promise12WrongQuestionsChangeNothing() {
-        Edges.refused(Edges::full, "trees(3)", x -> x.trees(3), 0);
-        Edges.refused(Edges::full, "trees(-1)", x -> x.trees(-1), 0);
-        Edges.refused(Edges::silent, "trees(0)", x -> x.trees(0), 0);
+        Edges.changesNothing(Edges::full, "trees(3)", x -> x.trees(3), 0);
+        Edges.changesNothing(Edges::full, "trees(-1)", x -> x.trees(-1), 0);
+        Edges.changesNothing(Edges::silent, "trees(0)", x -> x.trees(0), 0);
     }
 
     private static void promise14WrongQuestionsChangeNothing() {
-        Edges.refused(Edges::full, "symbols(-1, 6)", x -> x.symbols(-1, 6), 0);
-        Edges.refused(Edges::full, "symbols(5, 0)", x -> x.symbols(5, 0), 0);
-        Edges.refused(Edges::roomy, "symbols(0, 5)", x -> x.symbols(0, 5), 0);
-        Edges.refused(Edges::silent, "symbols(0, 1)", x -> x.symbols(0, 1), 0);
+        Edges.changesNothing(Edges::full, "symbols(-1, 6)", x -> x.symbols(-1, 6), 0);
+        Edges.changesNothing(Edges::full, "symbols(5, 0)", x -> x.symbols(5, 0), 0);
+        Edges.changesNothing(Edges::roomy, "symbols(0, 5)", x -> x.symbols(0, 5), 0);
+        Edges.changesNothing(Edges::silent, "symbols(0, 1)", x -> x.symbols(0, 1), 0);
     }
 
     private static void promise11TheWholeRowIsTheSameAsCost() {
@@ -349,6 +349,26 @@ public final class CostEdgesTest {
             span(x, 0, 5, 0, k, NONE);
             span(x, 4, 5, 2, k, NONE);
         }
+    }
+
+    // Sixteen trees over each two words, and none over a longer span.
+    private static void promise11EightOfMoreOverAPart() {
+        ParseRanker x = new ParseRanker();
+        x.pair(Check.abc(0, 1, 1), 10);
+        for (int n = 0; n < 4; n++) {
+            x.word(1, 0, n);
+        }
+        Check.say(x, 0, 0, 0, 0, 0);
+        int[] wants = {10, 11, 11, 12, 12, 12, 13, 13};
+        for (int i = 0; i < 4; i++) {
+            for (int k = 0; k < 8; k++) {
+                span(x, i, i + 2, 0, k, wants[k]);
+            }
+            span(x, i, i + 2, 0, 8, NONE);
+            span(x, i, i + 2, 0, -1, NONE);
+        }
+        span(x, 0, 3, 0, 0, NONE);
+        Check.costs(x, 0);
     }
 
     private static void promise11NotSoManyTrees() {

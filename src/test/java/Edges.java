@@ -164,7 +164,7 @@ final class Edges {
     }
 
     /** The call answers as due and leaves the object as one that was never asked. */
-    static void refused(Supplier<ParseRanker> make, String call, ToIntFunction<ParseRanker> ask, int want) {
+    static void changesNothing(Supplier<ParseRanker> make, String call, ToIntFunction<ParseRanker> ask, int want) {
         ParseRanker untouched = make.get();
         ParseRanker asked = make.get();
         Check.due(call, ask.applyAsInt(asked), want);

@@ -6,7 +6,8 @@ import java.util.List;
 final class PlainModel {
     static final int TOO_MANY = 4000;
 
-    private record Rule(boolean pair, int a, int b, int c, int cost) {
+    /** A WORD rule has its word in b. */
+    record Rule(boolean pair, int a, int b, int c, int cost) {
     }
 
     private record Tree(int cost, int used, List<Integer> list) {
@@ -25,6 +26,14 @@ final class PlainModel {
         }
         rules[k] = new Rule(pair, a, b, c, cost);
         return k;
+    }
+
+    Rule rule(int k) {
+        return rules[k];
+    }
+
+    int wordAt(int place) {
+        return row.get(place);
     }
 
     boolean there(int k) {
@@ -149,6 +158,7 @@ final class PlainModel {
         if (!there(k)) {
             return -1;
         }
-        return trees(0, row.size(), a).stream().filter(t -> (t.used >> k & 1) == 1).mapToInt(Tree::cost).min().orElse(-1);
+        return trees(0, row.size(), a).stream()
+            .filter(tree -> (tree.used >> k & 1) == 1).mapToInt(Tree::cost).min().orElse(-1);
     }
 }

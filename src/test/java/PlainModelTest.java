@@ -4,8 +4,7 @@ public final class PlainModelTest {
     // A step makes at most two calls, so that no object is asked more than 512 times.
     private static final int STEPS = 250;
 
-    // A fixed row of numbers, so that each run of the test makes the same calls.
-    private static long seed = 20261115;
+    private static final Picks PICKS = new Picks(20261115);
 
     private static ParseRanker x;
     private static PlainModel model;
@@ -14,8 +13,7 @@ public final class PlainModelTest {
     private static int run;
 
     private static int pick(int bound) {
-        seed = seed * 6364136223846793005L + 1442695040888963407L;
-        return (int) ((seed >>> 33) % bound);
+        return PICKS.below(bound);
     }
 
     /** A number from 0 to bound - 1, and now and then one outside. */

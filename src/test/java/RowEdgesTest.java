@@ -20,8 +20,8 @@ public final class RowEdgesTest {
 
     private static void sayRefused(int w) {
         String call = "say(" + w + ")";
-        Edges.refused(ParseRanker::new, call, x -> Edges.number(x.say(w)), Edges.REFUSED);
-        Edges.refused(Edges::roomy, call, x -> Edges.number(x.say(w)), Edges.REFUSED);
+        Edges.changesNothing(ParseRanker::new, call, x -> Edges.number(x.say(w)), Edges.REFUSED);
+        Edges.changesNothing(Edges::roomy, call, x -> Edges.number(x.say(w)), Edges.REFUSED);
     }
 
     private static void promise07WordTooSmall() {
@@ -47,13 +47,13 @@ public final class RowEdgesTest {
     private static void promise07FiveAreThere() {
         for (int n = 0; n < 3; n++) {
             int w = n;
-            Edges.refused(Edges::full, "say(" + w + ")", x -> Edges.number(x.say(w)), Edges.REFUSED);
+            Edges.changesNothing(Edges::full, "say(" + w + ")", x -> Edges.number(x.say(w)), Edges.REFUSED);
         }
     }
 
     private static void promise07FiveAreThereAndTheWordIsWrong() {
         for (int w : Edges.outside(2)) {
-            Edges.refused(Edges::full, "say(" + w + ")", x -> Edges.number(x.say(w)), Edges.REFUSED);
+            Edges.changesNothing(Edges::full, "say(" + w + ")", x -> Edges.number(x.say(w)), Edges.REFUSED);
         }
     }
 
@@ -67,8 +67,8 @@ public final class RowEdgesTest {
     }
 
     private static void promise08EmptyRow() {
-        Edges.refused(ParseRanker::new, "unsay()", ParseRanker::unsay, NONE);
-        Edges.refused(Edges::silent, "unsay()", ParseRanker::unsay, NONE);
+        Edges.changesNothing(ParseRanker::new, "unsay()", ParseRanker::unsay, NONE);
+        Edges.changesNothing(Edges::silent, "unsay()", ParseRanker::unsay, NONE);
     }
 
     private static void promise08EmptyRowAgainAndAgain() {

@@ -1,3 +1,5 @@
+import java.util.function.Supplier;
+
 /** The boundary cases of promises 1 to 6 and 16, one test for each: no rules, eight rules, calls about rules. */
 public final class RuleEdgesTest {
     private static final int NONE = Edges.NONE;
@@ -9,23 +11,23 @@ public final class RuleEdgesTest {
 
     private static void pairRefused(int abc, int cost) {
         String call = "pair(" + abc + ", " + cost + ")";
-        Edges.refused(ParseRanker::new, call, x -> x.pair(abc, cost), NONE);
-        Edges.refused(Edges::roomy, call, x -> x.pair(abc, cost), NONE);
+        Edges.changesNothing(ParseRanker::new, call, x -> x.pair(abc, cost), NONE);
+        Edges.changesNothing(Edges::roomy, call, x -> x.pair(abc, cost), NONE);
     }
 
     private static void wordRefused(int a, int w, int cost) {
         String call = "word(" + a + ", " + w + ", " + cost + ")";
-        Edges.refused(ParseRanker::new, call, x -> x.word(a, w, cost), NONE);
-        Edges.refused(Edges::roomy, call, x -> x.word(a, w, cost), NONE);
+        Edges.changesNothing(ParseRanker::new, call, x -> x.word(a, w, cost), NONE);
+        Edges.changesNothing(Edges::roomy, call, x -> x.word(a, w, cost), NONE);
     }
 
-    private static void dropRefused(int k) {
-        Edges.refused(Edges::full, "drop(" + k + ")", x -> Edges.number(x.drop(k)), Edges.REFUSED);
+    private static void dropRefused(Supplier<ParseRanker> make, int k) {
+        Edges.changesNothing(make, "drop(" + k + ")", x -> Edges.number(x.drop(k)), Edges.REFUSED);
     }
 
-    private static void priceRefused(int k, int cost) {
+    private static void priceRefused(Supplier<ParseRanker> make, int k, int cost) {
         String call = "price(" + k + ", " + cost + ")";
-        Edges.refused(Edges::full, call, x -> Edges.number(x.price(k, cost)), Edges.REFUSED);
+        Edges.changesNothing(make, call, x -> Edges.number(x.price(k, cost)), Edges.REFUSED);
     }
 
     // The tests of refused calls are worth no more than what Edges.state can tell apart.
@@ -48,6 +50,32 @@ public final class RuleEdgesTest {
         Check.due("call 512: bestAt(0, 12)", x.bestAt(0, 12), 1);
     }
 
+    private static void documentThe512thCallAfterManyChanges() {
+        ParseRanker x = new ParseRanker();
+        for (int n = 0; n < 126; n++) {
+            Check.due("word(0, 0, 9)", x.word(0, 0, 9), 0);
+            Check.due("say(0)", x.say(0), true);
+            Check.due("unsay()", x.unsay(), 0);
+            Check.due("drop(0)", x.drop(0), true);
+        }
+        Check.due("call 505: pair(0, 2)", x.pair(0, 2), 0);
+        Check.due("call 506: word(0, 0, 3)", x.word(0, 0, 3), 1);
+        Check.say(x, 0, 0, 0, 0, 0);
+        Check.due("call 512: cost(0, 7)", x.cost(0, 7), 23);
+    }
+
+    // The document tells no change of state for a question, so there is none: each answers as if it were the first.
+    private static void documentQuestionsChangeNothing() {
+        Edges.changesNothing(Edges::full, "rules()", ParseRanker::rules, 255);
+        Edges.changesNothing(Edges::full, "length()", ParseRanker::length, 5);
+        Edges.changesNothing(Edges::full, "cost(0, 0)", x -> x.cost(0, 0), 146);
+        Edges.changesNothing(Edges::full, "spanCost(0, 3, 0, 0)", x -> x.spanCost(0, 3, 0, 0), 106);
+        Edges.changesNothing(Edges::full, "trees(0)", x -> x.trees(0), 5);
+        Edges.changesNothing(Edges::full, "bestAt(0, 12)", x -> x.bestAt(0, 12), 4);
+        Edges.changesNothing(Edges::full, "symbols(0, 3)", x -> x.symbols(0, 3), 1);
+        Edges.changesNothing(Edges::full, "costWith(0, 3)", x -> x.costWith(0, 3), 150);
+    }
+
     private static void promise01NoRules() {
         ParseRanker x = new ParseRanker();
         Check.due("rules()", x.rules(), 0);
@@ -59,10 +87,9 @@ public final class RuleEdgesTest {
     }
 
     private static void promise01NoRuleCanBeDroppedOrPriced() {
-        for (int n = 0; n < 8; n++) {
-            int k = n;
-            Edges.refused(ParseRanker::new, "drop(" + k + ")", x -> Edges.number(x.drop(k)), Edges.REFUSED);
-            Edges.refused(ParseRanker::new, "price(" + k + ", 0)", x -> Edges.number(x.price(k, 0)), Edges.REFUSED);
+        for (int k = 0; k < 8; k++) {
+            dropRefused(ParseRanker::new, k);
+            priceRefused(ParseRanker::new, k, 0);
         }
     }
 
@@ -335,25 +362,24 @@ public final class RuleEdgesTest {
 
     private static void promise04KTooSmall() {
         for (int k : Edges.tooSmall()) {
-            dropRefused(k);
+            dropRefused(Edges::full, k);
         }
     }
 
     private static void promise04KTooLarge() {
         for (int k : Edges.tooLarge(7)) {
-            dropRefused(k);
+            dropRefused(Edges::full, k);
         }
     }
 
     private static void promise04NoRuleKYet() {
-        for (int n = 3; n < 8; n++) {
-            int k = n;
-            Edges.refused(() -> Edges.alike(3), "drop(" + k + ")", x -> Edges.number(x.drop(k)), Edges.REFUSED);
+        for (int k = 3; k < 8; k++) {
+            dropRefused(() -> Edges.alike(3), k);
         }
     }
 
     private static void promise04RuleKIsGoneAlready() {
-        Edges.refused(Edges::roomy, "drop(3)", x -> Edges.number(x.drop(3)), Edges.REFUSED);
+        dropRefused(Edges::roomy, 3);
     }
 
     // A rule that takes a number over brings all of its own, and nothing of the one that had it.
@@ -398,46 +424,45 @@ public final class RuleEdgesTest {
 
     private static void promise05KTooSmall() {
         for (int k : Edges.tooSmall()) {
-            priceRefused(k, 5);
+            priceRefused(Edges::full, k, 5);
         }
     }
 
     private static void promise05KTooLarge() {
         for (int k : Edges.tooLarge(7)) {
-            priceRefused(k, 5);
+            priceRefused(Edges::full, k, 5);
         }
     }
 
     private static void promise05NoRuleKYet() {
-        for (int n = 3; n < 8; n++) {
-            int k = n;
-            Edges.refused(() -> Edges.alike(3), "price(" + k + ", 5)", x -> Edges.number(x.price(k, 5)), Edges.REFUSED);
+        for (int k = 3; k < 8; k++) {
+            priceRefused(() -> Edges.alike(3), k, 5);
         }
     }
 
     private static void promise05RuleKIsGoneAlready() {
-        Edges.refused(Edges::roomy, "price(3, 5)", x -> Edges.number(x.price(3, 5)), Edges.REFUSED);
+        priceRefused(Edges::roomy, 3, 5);
     }
 
     private static void promise05CostTooSmall() {
         for (int cost : Edges.tooSmall()) {
-            priceRefused(0, cost);
-            priceRefused(7, cost);
+            priceRefused(Edges::full, 0, cost);
+            priceRefused(Edges::full, 7, cost);
         }
     }
 
     private static void promise05CostTooLarge() {
         for (int cost : Edges.tooLarge(50)) {
-            priceRefused(0, cost);
-            priceRefused(7, cost);
+            priceRefused(Edges::full, 0, cost);
+            priceRefused(Edges::full, 7, cost);
         }
     }
 
     private static void promise05KAndCostWrong() {
-        priceRefused(-1, -1);
-        priceRefused(8, 51);
-        priceRefused(Integer.MIN_VALUE, Integer.MIN_VALUE);
-        priceRefused(Integer.MAX_VALUE, Integer.MAX_VALUE);
+        priceRefused(Edges::full, -1, -1);
+        priceRefused(Edges::full, 8, 51);
+        priceRefused(Edges::full, Integer.MIN_VALUE, Integer.MIN_VALUE);
+        priceRefused(Edges::full, Integer.MAX_VALUE, Integer.MAX_VALUE);
     }
 
     private static void promise06NoRules() {
@@ -463,30 +488,30 @@ public final class RuleEdgesTest {
 
     private static void promise16PairNoneBeforeFull() {
         for (int abc : Edges.outside(42)) {
-            Edges.refused(Edges::full, "pair(" + abc + ", 0)", x -> x.pair(abc, 0), NONE);
+            Edges.changesNothing(Edges::full, "pair(" + abc + ", 0)", x -> x.pair(abc, 0), NONE);
         }
         for (int cost : Edges.outside(50)) {
-            Edges.refused(Edges::full, "pair(0, " + cost + ")", x -> x.pair(0, cost), NONE);
+            Edges.changesNothing(Edges::full, "pair(0, " + cost + ")", x -> x.pair(0, cost), NONE);
         }
         for (int abc : new int[] {3, 12, 48, 63}) {
-            Edges.refused(Edges::full, "pair(" + abc + ", 0)", x -> x.pair(abc, 0), NONE);
+            Edges.changesNothing(Edges::full, "pair(" + abc + ", 0)", x -> x.pair(abc, 0), NONE);
         }
     }
 
     private static void promise16WordNoneBeforeFull() {
         for (int bad : Edges.outside(2)) {
-            Edges.refused(Edges::full, "word(" + bad + ", 0, 0)", x -> x.word(bad, 0, 0), NONE);
-            Edges.refused(Edges::full, "word(0, " + bad + ", 0)", x -> x.word(0, bad, 0), NONE);
+            Edges.changesNothing(Edges::full, "word(" + bad + ", 0, 0)", x -> x.word(bad, 0, 0), NONE);
+            Edges.changesNothing(Edges::full, "word(0, " + bad + ", 0)", x -> x.word(0, bad, 0), NONE);
         }
         for (int cost : Edges.outside(50)) {
-            Edges.refused(Edges::full, "word(0, 0, " + cost + ")", x -> x.word(0, 0, cost), NONE);
+            Edges.changesNothing(Edges::full, "word(0, 0, " + cost + ")", x -> x.word(0, 0, cost), NONE);
         }
     }
 
     private static void promise16PairChangesNothingWithFull() {
         for (int n = 0; n < 27; n++) {
             int abc = Check.abc(n % 3, n / 3 % 3, n / 9);
-            Edges.refused(Edges::full, "pair(" + abc + ", 0)", x -> x.pair(abc, 0), FULL);
+            Edges.changesNothing(Edges::full, "pair(" + abc + ", 0)", x -> x.pair(abc, 0), FULL);
         }
     }
 
@@ -494,7 +519,7 @@ public final class RuleEdgesTest {
         for (int n = 0; n < 9; n++) {
             int a = n / 3;
             int w = n % 3;
-            Edges.refused(Edges::full, "word(" + a + ", " + w + ", 0)", x -> x.word(a, w, 0), FULL);
+            Edges.changesNothing(Edges::full, "word(" + a + ", " + w + ", 0)", x -> x.word(a, w, 0), FULL);
         }
     }
 

@@ -6,7 +6,9 @@ public final class RulesTest {
         leastFreeNumber();
         dropTakesAway();
         priceChanges();
+        theRuleGetsTheNumber();
         objectsStandAlone();
+        objectsAskedInTurn();
         Check.end();
     }
 
@@ -101,6 +103,32 @@ public final class RulesTest {
         Check.due("rules()", x.rules(), 3);
     }
 
+    // What pair and word answer is the number that all other calls know the rule by.
+    private static void theRuleGetsTheNumber() {
+        ParseRanker x = new ParseRanker();
+        for (int k = 0; k < 8; k++) {
+            x.word(2, 2, 0);
+        }
+        x.drop(5);
+        x.drop(2);
+        Check.due("word(0, 0, 4)", x.word(0, 0, 4), 2);
+        Check.due("pair(0, 1)", x.pair(0, 1), 5);
+        Check.say(x, 0, 0);
+        Check.best(x, 0, 5, 1, 2, 2);
+        Check.due("costWith(0, 2)", x.costWith(0, 2), 9);
+        Check.due("costWith(0, 5)", x.costWith(0, 5), 9);
+        Check.due("price(2, 10)", x.price(2, 10), true);
+        Check.costs(x, 0, 21);
+        Check.due("price(5, 30)", x.price(5, 30), true);
+        Check.costs(x, 0, 50);
+        Check.due("drop(5)", x.drop(5), true);
+        Check.costs(x, 0);
+        Check.due("spanCost(1, 2, 0, 0)", x.spanCost(1, 2, 0, 0), 10);
+        Check.due("drop(2)", x.drop(2), true);
+        Check.due("spanCost(1, 2, 0, 0)", x.spanCost(1, 2, 0, 0), ParseRanker.NONE);
+        Check.due("rules()", x.rules(), 0b11011011);
+    }
+
     private static void objectsStandAlone() {
         ParseRanker x = new ParseRanker();
         ParseRanker y = new ParseRanker();
@@ -108,5 +136,20 @@ public final class RulesTest {
         Check.say(x, 0);
         Check.due("rules() of another", y.rules(), 0);
         Check.due("length() of another", y.length(), 0);
+    }
+
+    private static void objectsAskedInTurn() {
+        ParseRanker x = Edges.chain(3);
+        ParseRanker y = Edges.everything(2);
+        for (int n = 0; n < 3; n++) {
+            Check.costs(x, 0, 13, 13);
+            Check.costs(y, 1, 7);
+            Check.best(x, 0, 0, 1, 1, 0, 2, 1, 1);
+            Check.best(y, 2, 5, 1, 0, 0);
+            Check.due("costWith(0, 1)", x.costWith(0, 1), 13);
+            Check.due("costWith(0, 1) of another", y.costWith(0, 1), ParseRanker.NONE);
+            Check.due("symbols(0, 2)", x.symbols(0, 2), 1);
+            Check.due("symbols(0, 2) of another", y.symbols(0, 2), 7);
+        }
     }
 }

@@ -207,19 +207,19 @@ public final class TreeEdgesTest {
     }
 
     private static void promise13WrongQuestionsChangeNothing() {
-        Edges.refused(Edges::full, "bestAt(3, 0)", x -> x.bestAt(3, 0), NONE);
-        Edges.refused(Edges::full, "bestAt(0, 13)", x -> x.bestAt(0, 13), NONE);
-        Edges.refused(Edges::full, "bestAt(-1, -1)", x -> x.bestAt(-1, -1), NONE);
-        Edges.refused(Edges::lawless, "bestAt(0, 0)", x -> x.bestAt(0, 0), NONE);
-        Edges.refused(Edges::silent, "bestAt(0, 0)", x -> x.bestAt(0, 0), NONE);
+        Edges.changesNothing(Edges::full, "bestAt(3, 0)", x -> x.bestAt(3, 0), NONE);
+        Edges.changesNothing(Edges::full, "bestAt(0, 13)", x -> x.bestAt(0, 13), NONE);
+        Edges.changesNothing(Edges::full, "bestAt(-1, -1)", x -> x.bestAt(-1, -1), NONE);
+        Edges.changesNothing(Edges::lawless, "bestAt(0, 0)", x -> x.bestAt(0, 0), NONE);
+        Edges.changesNothing(Edges::silent, "bestAt(0, 0)", x -> x.bestAt(0, 0), NONE);
     }
 
     private static void promise15WrongQuestionsChangeNothing() {
-        Edges.refused(Edges::full, "costWith(3, 0)", x -> x.costWith(3, 0), NONE);
-        Edges.refused(Edges::full, "costWith(0, 8)", x -> x.costWith(0, 8), NONE);
-        Edges.refused(Edges::full, "costWith(-1, -1)", x -> x.costWith(-1, -1), NONE);
-        Edges.refused(Edges::roomy, "costWith(0, 3)", x -> x.costWith(0, 3), NONE);
-        Edges.refused(Edges::silent, "costWith(0, 0)", x -> x.costWith(0, 0), NONE);
+        Edges.changesNothing(Edges::full, "costWith(3, 0)", x -> x.costWith(3, 0), NONE);
+        Edges.changesNothing(Edges::full, "costWith(0, 8)", x -> x.costWith(0, 8), NONE);
+        Edges.changesNothing(Edges::full, "costWith(-1, -1)", x -> x.costWith(-1, -1), NONE);
+        Edges.changesNothing(Edges::roomy, "costWith(0, 3)", x -> x.costWith(0, 3), NONE);
+        Edges.changesNothing(Edges::silent, "costWith(0, 0)", x -> x.costWith(0, 0), NONE);
     }
 
     private static void promise15FirstAndLastRule() {
